@@ -291,7 +291,7 @@ public final class FewBowls {
         return (ways & JUST_WISHED) != 0 ? full == wished : holds(full, wished);
     }
 
-    /** Reads a text TOKEN by TOKEN; a WORD's value is its letters as digits of base 27. */
+    /** Reads a text TOKEN by TOKEN; a WORD's value has its letters for digits, so six fit in an int. */
     private static final class Tokens {
         static final int RAW = 0;
         static final int MAKE = 1;
@@ -308,6 +308,7 @@ public final class FewBowls {
 
         private static final int MOST_LETTERS = 6;
         private static final int MOST_DIGITS = 2;
+        private static final int BASE = 27;
 
         // Stands in the order of the kinds above.
         private final int[] kept = {
@@ -376,7 +377,7 @@ public final class FewBowls {
         private int wordValue() {
             int word = 0;
             for (int i = place; i < at; i++) {
-                word = word * 27 + (bytes[i] - 'a' + 1);
+                word = word * BASE + letterValue(bytes[i]);
             }
             return word;
         }
@@ -401,9 +402,13 @@ public final class FewBowls {
         private static int spell(String word) {
             int value = 0;
             for (int i = 0; i < word.length(); i++) {
-                value = value * 27 + (word.charAt(i) - 'a' + 1);
+                value = value * BASE + letterValue(word.charAt(i));
             }
             return value;
+        }
+
+        private static int letterValue(int letter) {
+            return letter - 'a' + 1;
         }
 
         private static boolean isBlank(int sign) {
@@ -437,6 +442,11 @@ public final class FewBowls {
             return false;
         }
 
+        private int refuse(int faultKind) {
+            fail(faultKind);
+            return NONE;
+        }
+
         private void begin(byte[] text, int length) {
             kind = 0;
             place = 0;
@@ -446,7 +456,7 @@ public final class FewBowls {
         boolean readNet(byte[] text, int length, Net draft) {
             begin(text, length);
             draft.clear();
-            // No line is without a byte, so there are fewer lines than bytes.
+            // No LINE is without a byte, so there are never more of them than bytes.
             for (int line = 0; line <= MOST_TEXT; line++) {
                 tokens.advance();
                 if (tokens.kind == Tokens.END) {
@@ -493,27 +503,23 @@ public final class FewBowls {
 
         private int readParts(Net draft) {
             if (tokens.kind != Tokens.OF) {
-                fail(CANT_COME);
-                return NONE;
+                return refuse(CANT_COME);
             }
             int parts = 0;
             tokens.advance();
             for (int i = 0; i <= MOST_PARTS && tokens.kind == Tokens.NAME; i++) {
                 int k = draft.find(tokens.value);
                 if (k < 0 || bit(parts, k) == 1) {
-                    fail(WRONG_NAME);
-                    return NONE;
+                    return refuse(WRONG_NAME);
                 }
                 if (i == MOST_PARTS) {
-                    fail(TOO_MANY);
-                    return NONE;
+                    return refuse(TOO_MANY);
                 }
                 parts |= 1 << k;
                 tokens.advance();
             }
             if (parts == 0) {
-                fail(CANT_COME);
-                return NONE;
+                return refuse(CANT_COME);
             }
             return parts;
         }
@@ -523,15 +529,13 @@ public final class FewBowls {
             if (tokens.kind == Tokens.COSTS) {
                 tokens.advance();
                 if (tokens.kind != Tokens.NUMBER) {
-                    fail(CANT_COME);
-                    return NONE;
+                    return refuse(CANT_COME);
                 }
                 price = tokens.value;
                 tokens.advance();
             }
             if (tokens.kind != Tokens.SEMICOLON) {
-                fail(CANT_COME);
-                return NONE;
+                return refuse(CANT_COME);
             }
             return price;
         }
@@ -597,13 +601,11 @@ public final class FewBowls {
         private int readThing(Net net) {
             tokens.advance();
             if (tokens.kind != Tokens.NAME) {
-                fail(CANT_COME);
-                return NONE;
+                return refuse(CANT_COME);
             }
             int k = net.find(tokens.value);
             if (k < 0) {
-                fail(WRONG_NAME);
-                return NONE;
+                return refuse(WRONG_NAME);
             }
             tokens.advance();
             return k;
@@ -903,7 +905,8 @@ public final class FewBowls {
 
         /** The THING that had best be RAW; only what beats the best so far is looked for. */
         int bestBought(Net net, int ways) {
-            int least = leastBowls(net, net.wished, ways);
+            turnTo(net, ways);
+            int least = firstEnd(net.wished, ways, net.things);
             int best = NONE;
             for (int k = 0; k < net.things; k++) {
                 if (bit(net.raw, k) == 0) {
@@ -1552,14 +1555,14 @@ public final class FewBowls {
         }
 
         private void makeAtOnce(Net net, int full, int cooks, int bowls) {
-            int open = 0;
+            int mayCome = 0;
             for (int x = 0; x < net.things; x++) {
                 if (bit(full, x) == 0 && holds(full, net.parts[x])) {
-                    open |= 1 << x;
+                    mayCome |= 1 << x;
                 }
             }
-            for (int made = 1; made <= open; made++) {
-                if (holds(open, made) && Integer.bitCount(made) <= cooks && Integer.bitCount(full | made) <= bowls) {
+            for (int made = 1; made <= mayCome; made++) {
+                if (holds(mayCome, made) && Integer.bitCount(made) <= cooks && Integer.bitCount(full | made) <= bowls) {
                     visit(full | made, 0);
                 }
             }

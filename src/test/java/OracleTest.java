@@ -13,7 +13,7 @@ public final class OracleTest {
         Random random = new Random(20261118);
         int rounds = args.length > 0 ? Integer.parseInt(args[0]) : 60;
         for (int round = 0; round < rounds; round++) {
-            int things = 1 + random.nextInt(round % 10 == 0 ? 6 : 5);
+            int things = args.length > 1 ? Integer.parseInt(args[1]) : 1 + random.nextInt(round % 10 == 0 ? 6 : 5);
             Oracle oracle = randomNet(random, things);
             FewBowls x = new FewBowls();
             BENCH.due("net() of " + text, Bench.net(x, text), things);
@@ -154,7 +154,7 @@ public final class OracleTest {
 
     private static void checkSmall(FewBowls x, Oracle oracle) {
         due("promised", x.promised(), oracle.promised());
-        for (int b = 1; b <= oracle.things() + 1; b++) {
+        for (int b = 1; b <= Math.min(8, oracle.things() + 1); b++) {
             due("carry " + b, x.carry(b), oracle.carry(b));
             for (int k = 1; k <= 4; k++) {
                 due("cooks " + k + " " + b, x.cooks(k, b), oracle.cooks(k, b));
