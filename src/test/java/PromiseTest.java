@@ -287,6 +287,13 @@ public final class PromiseTest {
         FewBowls six = Bench.with("raw a;raw b;raw c;raw d;raw e;raw f;make g of a b c d e f;wish g;");
         B.due("branch of six", six.branch(6, false), 7);
         B.due("branch of six in place", six.branch(6, true), 6);
+        // The parts of g come by rising BRANCH, behind three of f that are all great.
+        FewBowls rising = Bench.with("raw a;raw b;make c of a b;make d of a b;make e of a b;"
+            + "make f of c d e;make g of a c d;wish f g;");
+        B.due("branch of three great", rising.branch(5, false), 5);
+        B.due("branch of three great in place", rising.branch(5, true), 4);
+        B.due("branch of a small and two great", rising.branch(6, false), 4);
+        B.due("branch of a small and two great in place", rising.branch(6, true), 3);
         FewBowls deep = Bench.with("raw a;make b of a;make c of a b;make d of a b c;make e of a b c d;"
             + "make f of a b c d e;make g of a b c d e f;make h of b c d e f g;wish h;");
         B.due("copies double", deep.tree(6, 0), 64);
