@@ -5,6 +5,8 @@ final class Bench {
     private final String name;
     private int wrong = 0;
     private int calls = 0;
+    private int sentences = 0;
+    private String sentence = "";
 
     Bench(String name) {
         this.name = name;
@@ -14,8 +16,14 @@ final class Bench {
         calls++;
         if (got != want) {
             wrong++;
-            System.out.println(name + ": " + what + " answered " + got + ", due is " + want);
+            System.out.println(name + ": " + sentence + what + " answered " + got + ", due is " + want);
         }
+    }
+
+    /** All that is asked from here on stands for this sentence of the document, of this promise. */
+    void sentence(int promise, String words) {
+        sentences++;
+        sentence = "promise " + promise + ", '" + words + "': ";
     }
 
     void due(String what, boolean got, boolean want) {
@@ -47,7 +55,8 @@ final class Bench {
             System.out.println(name + ": " + wrong + " of " + calls + " wrong");
             System.exit(1);
         }
-        System.out.println(name + ": " + calls + " answers as due");
+        String told = sentences > 0 ? " for " + sentences + " sentences" : "";
+        System.out.println(name + ": " + calls + " answers as due" + told);
     }
 
     /** Puts the text on the tape, which must be empty. */

@@ -38,6 +38,7 @@ public final class FaceTest {
         }
         BENCH.due("twelve classes at most", face.getDeclaredClasses().length + 1 <= 12, true);
         checkSource();
+        checkSentences();
         BENCH.close();
     }
 
@@ -106,5 +107,16 @@ public final class FaceTest {
         BENCH.due("that import", source.contains("import java.util.NoSuchElementException;"), true);
         BENCH.due("methods of sixty lines at most", longest <= 60, true);
         BENCH.due("signs 1 to 127 alone", source.chars().allMatch(sign -> sign >= 1 && sign <= 127), true);
+    }
+
+    /** Each promise has its boundary cases tested, sentence by sentence. */
+    private static void checkSentences() throws Exception {
+        StringBuilder edges = new StringBuilder();
+        for (String one : new String[] {"EdgeTextTest", "EdgeSearchTest", "EdgeOrderTest"}) {
+            edges.append(Files.readString(Path.of("src/test/java/" + one + ".java")));
+        }
+        for (int promise = 1; promise <= 32; promise++) {
+            BENCH.due("a sentence of promise " + promise, edges.toString().contains("B.sentence(" + promise + ", "), true);
+        }
     }
 }
