@@ -309,6 +309,8 @@ public final class FewBowls {
         private static final int MOST_LETTERS = 6;
         private static final int MOST_DIGITS = 2;
         private static final int BASE = 27;
+        // So that no letter counts as nothing, and a WORD is no other with letters put ahead.
+        private static final int BEFORE_A = 'a' - 1;
 
         // Stands in the order of the kinds above.
         private final int[] kept = {
@@ -377,7 +379,7 @@ public final class FewBowls {
         private int wordValue() {
             int word = 0;
             for (int i = place; i < at; i++) {
-                word = word * BASE + letterValue(bytes[i]);
+                word = word * BASE + bytes[i] - BEFORE_A;
             }
             return word;
         }
@@ -402,13 +404,9 @@ public final class FewBowls {
         private static int spell(String word) {
             int value = 0;
             for (int i = 0; i < word.length(); i++) {
-                value = value * BASE + letterValue(word.charAt(i));
+                value = value * BASE + word.charAt(i) - BEFORE_A;
             }
             return value;
-        }
-
-        private static int letterValue(int letter) {
-            return letter - 'a' + 1;
         }
 
         private static boolean isBlank(int sign) {
@@ -1321,8 +1319,9 @@ public final class FewBowls {
         }
 
         int search(Net net, int ways) {
-            least = desk.firstRow(net.needed + 1);
-            paths = desk.wideRow(net.needed + 1);
+            // As long as the other searches ask for, so that rows are seldom made anew.
+            least = desk.firstRow(net.sets());
+            paths = desk.wideRow(net.sets());
             for (int made = net.needed; made >= 0; made--) {
                 least[made] = isDownSet(net, made) ? leastFrom(net, ways, made) : FAR;
             }

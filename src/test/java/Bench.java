@@ -2,6 +2,9 @@ import java.util.NoSuchElementException;
 
 /** What the tests share: feeding texts, comparing answers, and telling how many were wrong. */
 final class Bench {
+    /** "An object is used for at most 512 calls": no test asks an object for more. */
+    static final int MOST_CALLS = 512;
+
     private final String name;
     private int wrong = 0;
     private int calls = 0;
@@ -57,6 +60,11 @@ final class Bench {
         }
         String told = sentences > 0 ? " for " + sentences + " sentences" : "";
         System.out.println(name + ": " + calls + " answers as due" + told);
+    }
+
+    /** How many calls it takes to put the text on the tape and to read it from there. */
+    static int callsFor(String text) {
+        return (text.length() + 19) / 20 + 2;
     }
 
     /** Puts the text on the tape, which must be empty. */

@@ -706,11 +706,11 @@ public final class EdgeSearchTest {
         String[] nets = {PAIR, "raw a;raw b;wish a;", FOUR, "raw a;wish a;", CHAIN};
         for (String net : nets) {
             Bench.net(x, net);
-            FewBowls fresh = Bench.with(net);
-            for (int ways = 0; ways < 4; ways++) {
-                B.due("reached() behind another NET", x.reached(ways, 2), fresh.reached(ways, 2));
+            // The first by the WAYS that were asked for last with the NET of before.
+            for (int ways : new int[] {3, 2, 1, 0, 3}) {
+                B.due("reached() behind another NET", x.reached(ways, 2), Bench.with(net).reached(ways, 2));
             }
-            B.due("fewest(3) behind another NET", x.fewest(3), fresh.fewest(3));
+            B.due("fewest(3) behind another NET", x.fewest(3), Bench.with(net).fewest(3));
             Bench.net(x, net);
             B.due("canBe() behind the same NET", x.canBe(3, 1, 1), 1);
         }
@@ -738,9 +738,9 @@ public final class EdgeSearchTest {
     private static void canBeOneOfThose() {
         B.sentence(17, "The set FULL (as bits) is one of those: 1, 0 not");
         for (String net : new String[] {PAIR, CHAIN, FOUR}) {
-            FewBowls x = Bench.with(net);
-            int sets = 1 << x.count(0);
             for (int ways = 0; ways < 8; ways++) {
+                FewBowls x = Bench.with(net);
+                int sets = 1 << x.count(0);
                 for (int bowls = 1; bowls <= 5; bowls++) {
                     int many = 0;
                     for (int full = 0; full < sets; full++) {
@@ -886,6 +886,16 @@ public final class EdgeSearchTest {
         Bench.plan(x, "make a;make b;make c in d;");
         Bench.net(x, "raw a;raw b;make c of a b;wish c;");
         B.due("MADE IN, y being none", x.judge(1, 14), 2);
+        // Also the first ACT of all; what is none is not taken for another.
+        for (String plan : new String[] {"make d;", "wash d;", "make d in a;", "make c in d;", "make a in b;"}) {
+            Bench.net(x, "raw a;raw b;make c of a b;raw d;wish c;");
+            Bench.plan(x, plan);
+            Bench.net(x, "raw a;raw b;make c of a b;wish c;");
+            for (int ways = 0; ways < 8; ways++) {
+                B.due("judge(" + ways + ", 14) of " + plan, x.judge(ways, 14), 0);
+                B.due("spare(" + ways + ", 14) of " + plan, x.spare(ways, 14), -1);
+            }
+        }
         // The numbers stand for other THINGS now, made of others.
         Bench.plan(x, "make a;make c;");
         Bench.net(x, "raw x;raw y;make z of x;wish z;");

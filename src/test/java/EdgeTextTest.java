@@ -26,6 +26,7 @@ public final class EdgeTextTest {
 
     private static void tape() {
         newObject();
+        the512thCall();
         feedUpTo540();
         feedHighestFirst();
         feedRefused();
@@ -126,6 +127,27 @@ public final class EdgeTextTest {
         B.due("end(1)", x.end(1), false);
         B.due("feed", x.feed(1, 2, 3, 4, 5), 20);
         B.due("another is new", new FewBowls().count(2), 0);
+    }
+
+    private static void the512thCall() {
+        B.sentence(1, "An object is used for at most 512 calls after it has been made");
+        FewBowls x = new FewBowls();
+        String fourteen = raws(13) + "make n of a b c d e f;wish n;";
+        int calls = Bench.callsFor(fourteen);
+        int fed = 0;
+        B.due("net() of 14", Bench.net(x, fourteen), 14);
+        // Dear ones, so that what they hold on to would show.
+        for (; calls < 504; calls += 4) {
+            B.due("acts(4, 7) behind " + calls, x.acts(4, 7), 13);
+            B.due("once(0) behind " + calls, x.once(0), 7);
+            B.due("reached(0, 1) behind " + calls, x.reached(0, 1), 14);
+            B.due("feed behind " + calls, x.feed(calls, 0, 0, 0, 0), fed < 540 ? fed + 20 : -1);
+            fed = Math.min(540, fed + 20);
+        }
+        for (; calls < 511; calls++) {
+            B.due("cost(0, 7) behind " + calls, x.cost(0, 7), 7);
+        }
+        B.due("the 512th call", x.fewest(0), 7);
     }
 
     // Promises 2 and 3

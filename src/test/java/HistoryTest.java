@@ -9,26 +9,36 @@ import java.util.TreeSet;
 public final class HistoryTest {
     private static final Bench BENCH = new Bench("HistoryTest");
     private static final int QUESTIONS = 14;
+    /** No row of answers is looked at farther than this. */
+    private static final int MOST_ROW = 30;
 
     public static void main(String[] args) {
         Random random = new Random(14);
         int rounds = args.length > 0 ? Integer.parseInt(args[0]) : 400;
         for (int round = 0; round < rounds; round++) {
             FewBowls old = new FewBowls();
+            calls = 0;
             for (int turn = 0; turn < 6; turn++) {
                 // Great nets come rarely, so that small ones find long rows full of what was before.
                 int most = random.nextInt(6) == 0 ? 11 : 8;
                 String net = randomNet(random, 1 + random.nextInt(most));
                 String plan = randomPlan(random, net);
+                calls += Bench.callsFor(net) + Bench.callsFor(plan);
+                if (calls > Bench.MOST_CALLS) {
+                    break;
+                }
                 Bench.net(old, net);
                 Bench.plan(old, plan);
-                for (int i = 0; i < 30; i++) {
+                for (int i = 0; i < 30 && calls <= Bench.MOST_CALLS - MOST_ROW - 3; i++) {
                     ask(old, net, plan, random);
                 }
             }
         }
         BENCH.close();
     }
+
+    /** How many calls the object with the past has had. */
+    private static int calls;
 
     private static void ask(FewBowls old, String net, String plan, Random random) {
         FewBowls fresh = Bench.with(net);
@@ -39,10 +49,17 @@ public final class HistoryTest {
         int b = 1 + random.nextInt(Math.min(14, fresh.count(0) + 1));
         int full = random.nextInt(1 << fresh.count(0));
         String call = "question " + which + " (" + k + ", " + ways + ", " + b + ", " + full + ") of " + net + plan;
-        BENCH.due(call, answer(old, which, k, ways, b, full), answer(fresh, which, k, ways, b, full));
+        long want = answer(fresh, which, k, ways, b, full);
+        asked = 0;
+        BENCH.due(call, answer(old, which, k, ways, b, full), want);
+        calls += asked;
     }
 
+    /** How many calls the latest answers took. */
+    private static int asked;
+
     private static long answer(FewBowls x, int which, int k, int ways, int b, int full) {
+        asked++;
         return switch (which) {
             case 0 -> x.fewest(ways);
             case 1 -> withRow(x, x.acts(ways, b));
@@ -56,30 +73,40 @@ public final class HistoryTest {
             case 9 -> x.cooks(1 + k % 4, b);
             case 10 -> x.promised();
             case 11 -> x.ready(ways);
-            case 12 -> x.judge(ways, b) * 10000L + x.judged(0) * 1000L + x.judged(1);
+            case 12 -> withJudged(x, x.judge(ways, b));
             default -> withKept(x, x.spare(ways, b));
         };
     }
 
     private static long withRow(FewBowls x, int length) {
         long sum = length;
-        for (int i = 0; i < length; i++) {
+        for (int i = 0; i < length && i < MOST_ROW; i++) {
+            asked++;
             sum = sum * 31 + x.actAt(i);
         }
+        asked++;
         return length < 0 ? sum : sum * 31 + x.rows();
     }
 
     private static long withOrder(FewBowls x, int bowls) {
+        asked++;
         long sum = bowls * 31L + x.onceMany();
-        for (int i = 0; x.onceAt(i) >= 0; i++) {
+        for (int i = 0; i < 14; i++) {
+            asked++;
             sum = sum * 31 + x.onceAt(i);
         }
         return sum;
     }
 
+    private static long withJudged(FewBowls x, int done) {
+        asked += 2;
+        return done * 10000L + x.judged(0) * 1000L + x.judged(1);
+    }
+
     private static long withKept(FewBowls x, int length) {
         long sum = length;
-        for (int i = 0; i < length; i++) {
+        for (int i = 0; i < length && i < MOST_ROW; i++) {
+            asked++;
             sum = sum * 31 + x.spareAt(i);
         }
         return sum;

@@ -21,12 +21,12 @@ public final class OracleTest {
             for (int ways = 0; ways < 8; ways++) {
                 checkFewest(x, oracle, ways);
                 for (int b = 1; b <= things + 1; b++) {
-                    checkBowls(x, oracle, ways, b);
+                    checkBowls(Bench.with(text), oracle, ways, b);
                 }
             }
             checkOrders(x, oracle, random);
             checkSmall(x, oracle);
-            checkPlans(x, oracle, random);
+            checkPlans(oracle, random);
         }
         BENCH.close();
     }
@@ -162,7 +162,7 @@ public final class OracleTest {
         }
     }
 
-    private static void checkPlans(FewBowls x, Oracle oracle, Random random) {
+    private static void checkPlans(Oracle oracle, Random random) {
         for (int trial = 0; trial < 12; trial++) {
             int planWays = random.nextInt(4);
             int planBowls = 1 + random.nextInt(oracle.things());
@@ -177,11 +177,12 @@ public final class OracleTest {
                 plan.add(act);
                 told.append(tell(act));
             }
-            due("plan " + told, Bench.plan(x, told.toString()), length);
-            for (int i = 0; i < length; i++) {
-                due("planAt " + i + " " + told, x.planAt(i), plan.get(i));
-            }
             for (int ways = 0; ways < 8; ways++) {
+                FewBowls x = Bench.with(text);
+                due("plan " + told, Bench.plan(x, told.toString()), length);
+                for (int i = 0; i < length; i++) {
+                    due("planAt " + i + " " + told, x.planAt(i), plan.get(i));
+                }
                 for (int b = 1; b <= oracle.things(); b++) {
                     checkPlan(x, oracle, plan, ways, b);
                 }

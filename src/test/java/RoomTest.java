@@ -34,6 +34,7 @@ public final class RoomTest {
         for (String net : NETS) {
             dearest(net);
         }
+        growing();
         Random random = new Random(7);
         int rounds = args.length > 0 ? Integer.parseInt(args[0]) : 40;
         for (int round = 0; round < rounds; round++) {
@@ -59,9 +60,10 @@ public final class RoomTest {
         FewBowls x = new FewBowls();
         Bench.net(x, net);
         Bench.plan(x, PLANS[0]);
+        int calls = Bench.MOST_CALLS - Bench.callsFor(net) - Bench.callsFor(PLANS[0]);
         long before = allocated();
         long sum = 0;
-        for (int i = 0; i < 512; i++) {
+        for (int i = 0; i < calls; i++) {
             int ways = i % 8;
             int b = 14 - i / 8 % 14;
             switch (i % 11) {
@@ -79,25 +81,56 @@ public final class RoomTest {
             }
         }
         long bytes = allocated() - before;
-        BENCH.due("512 calls on " + net + " make " + bytes + " bytes (" + sum + ")", bytes <= MOST_BYTES, true);
+        BENCH.due(calls + " calls on " + net + " make " + bytes + " bytes (" + sum + ")", bytes <= MOST_BYTES, true);
+    }
+
+    /** NETS of one THING more each time: rows that were made too short are left behind. */
+    private static void growing() {
+        FewBowls x = new FewBowls();
+        StringBuilder told = new StringBuilder();
+        int calls = 0;
+        long bytes = 0;
+        long sum = 0;
+        for (char name = 'a'; name <= 'n'; name++) {
+            told.append(name == 'a' ? "raw a;" : "make " + name + " of " + (char) (name - 1) + ";");
+            String net = told + "wish " + name + ";";
+            Bench.net(x, net);
+            calls += Bench.callsFor(net) + 9;
+            long before = allocated();
+            sum += x.once(0) + x.fewest(0) + x.acts(4, 2 + (name - 'a') / 3) + x.cost(0, 2) + x.spare(0, 2);
+            sum += x.carry(2) + x.cooks(1, 2) + x.promised() + x.ready(6);
+            bytes += allocated() - before;
+        }
+        BENCH.due("calls, of which there may be 512", calls <= Bench.MOST_CALLS, true);
+        BENCH.due(calls + " calls on growing nets make " + bytes + " bytes (" + sum + ")", bytes <= 2 * MOST_BYTES, true);
     }
 
     private static void anyCalls(Random random) {
         FewBowls x = new FewBowls();
-        for (int call = 0; call < 512; call++) {
+        int left = Bench.MOST_CALLS;
+        while (true) {
             int which = random.nextInt(40);
+            String text = which < 31 ? "" : which < 35 ? any(NETS, random) : which < 38 ? any(PLANS, random) : "\0\1\2\3";
+            left -= which < 31 ? 1 : 1 + Bench.callsFor(text);
+            if (left < 0) {
+                return;
+            }
             int[] n = new int[5];
             for (int i = 0; i < 5; i++) {
                 n[i] = number(random);
             }
             try {
-                anyCall(x, which, n, random);
+                anyCall(x, which, n, text);
             } catch (NoSuchElementException e) {
                 BENCH.due("only thing and tree throw, not " + which, which == 4 || which == 6, true);
             } catch (RuntimeException | Error e) {
                 BENCH.due("call " + which + " threw " + e, 1, 0);
             }
         }
+    }
+
+    private static String any(String[] texts, Random random) {
+        return texts[random.nextInt(texts.length)];
     }
 
     private static int number(Random random) {
@@ -111,7 +144,7 @@ public final class RoomTest {
         };
     }
 
-    private static void anyCall(FewBowls x, int which, int[] n, Random random) {
+    private static void anyCall(FewBowls x, int which, int[] n, String text) {
         switch (which) {
             case 0 -> x.feed(n[0], n[1], n[2], n[3], n[4]);
             case 1 -> x.end(n[0]);
@@ -129,7 +162,7 @@ public final class RoomTest {
             case 13 -> x.cost(n[0], n[1]);
             case 14 -> x.reached(n[0], n[1]);
             case 15 -> x.canBe(n[0], n[1], n[2]);
-            case 16 -> x.once(n[0] & 1);
+            case 16 -> x.once(n[1] > 3 ? n[0] : n[0] & 1);
             case 17 -> x.onceMany();
             case 18 -> x.onceAt(n[0]);
             case 19 -> x.order(n[0]);
@@ -146,15 +179,15 @@ public final class RoomTest {
             case 30 -> x.count(n[0]);
             case 31, 32, 33, 34 -> {
                 x.end(0);
-                Bench.net(x, NETS[random.nextInt(NETS.length)]);
+                Bench.net(x, text);
             }
             case 35, 36, 37 -> {
                 x.end(0);
-                Bench.plan(x, PLANS[random.nextInt(PLANS.length)]);
+                Bench.plan(x, text);
             }
             default -> {
                 x.end(0);
-                Bench.tape(x, "\0\1\2\3");
+                Bench.tape(x, text);
                 x.order(n[0] & 1);
             }
         }
